@@ -1,0 +1,899 @@
+import java.util.Arrays;
+
+/**
+ * A net of triangles between points of the plane that are told one by one: the circles of its triangles
+ * have no point inside, and of more than three points on one circle the least is in all their triangles.
+ */
+public final class PlaneNet {
+    public static final int NONE = -1;
+
+    private static final int ROOM = 1024;
+    private static final int REACH = 1000000000;
+    private static final int BEYOND = REACH + 1;
+
+    private static final int OUTSIDE = 0;
+    private static final int IN_TRIANGLE = 1;
+    private static final int BETWEEN = 2;
+    private static final int ON_POINT = 3;
+
+    private final Points points;
+    private final Net net;
+    private final Roll roll;
+    private final Outline outline;
+    private final int[] found;
+    private long closestGap;
+    private int closestLower;
+    private int closestOther;
+
+    public PlaneNet(int most) {
+        points = new Points(Math.max(1, Math.min(most, ROOM)));
+        net = new Net(points);
+        roll = new Roll(points, net);
+        outline = new Outline(points, net);
+        found = new int[] {NONE, NONE, NONE};
+        closestGap = 0;
+        closestLower = NONE;
+        closestOther = NONE;
+    }
+
+    public int add(int x, int y) throws IllegalArgumentException, IllegalStateException {
+        checkPlace(x, y);
+        int near = points.nearestOf(points.size, x, y);
+        if (points.isAt(near, x, y)) {
+            return NONE;
+        }
+        if (points.isFull()) {
+            throw new IllegalStateException("there are as many points as may be");
+        }
+        int number = points.append(x, y);
+        noteClosest(near, number);
+        if (net.isEmpty()) {
+            tryToBeginNet(number);
+        } else {
+            net.insert(number, near);
+        }
+        forgetAnswers();
+        return number;
+    }
+
+    public int clear() {
+        int gone = points.size;
+        points.size = 0;
+        net.removeAll();
+        closestLower = NONE;
+        closestOther = NONE;
+        forgetAnswers();
+        return gone;
+    }
+
+    public int find(int x, int y) throws IllegalArgumentException {
+        checkPlace(x, y);
+        int near = points.nearestOf(points.size, x, y);
+        return points.isAt(near, x, y) ? near : NONE;
+    }
+
+    public int triangle(int k, int what) throws IndexOutOfBoundsException {
+        if (k < 0 || k >= net.solidCount() || what < 0 || what > 2) {
+            throw new IndexOutOfBoundsException("no such triangle or point of it");
+        }
+        return net.startOf(Net.ahead(roll.edge(k), what));
+    }
+
+    public int neighbours(int point) throws IndexOutOfBoundsException {
+        checkNumber(point);
+        return net.isEmpty() ? neighboursOnLine(point) : net.degree(point);
+    }
+
+    public int neighbour(int point, int k) throws IndexOutOfBoundsException {
+        checkNumber(point);
+        int many = net.isEmpty() ? neighboursOnLine(point) : net.degree(point);
+        if (k < 0 || k >= many) {
+            throw new IndexOutOfBoundsException("no such neighbour");
+        }
+        return net.isEmpty() ? neighbourOnLine(point, k) : net.leftRound(point, k);
+    }
+
+    public int corner(int k) throws IndexOutOfBoundsException {
+        if (k < 0 || k >= outline.many()) {
+            throw new IndexOutOfBoundsException("no such corner");
+        }
+        return outline.at(k);
+    }
+
+    public int locate(int x, int y) throws IllegalArgumentException {
+        checkPlace(x, y);
+        forgetFound();
+        int near = points.nearestOf(points.size, x, y);
+        if (near == NONE) {
+            return OUTSIDE;
+        }
+        if (points.isAt(near, x, y)) {
+            found[0] = near;
+            return ON_POINT;
+        }
+        return net.isEmpty() ? locateOnLine(x, y) : locateInNet(near, x, y);
+    }
+
+    public int located(int what) {
+        return what >= 0 && what < found.length ? found[what] : NONE;
+    }
+
+    public int nearest(int x, int y) throws IllegalArgumentException, IllegalStateException {
+        checkPlace(x, y);
+        if (points.size == 0) {
+            throw new IllegalStateException("there are no points");
+        }
+        return points.nearestOf(points.size, x, y);
+    }
+
+    public long closest(int what) throws IndexOutOfBoundsException, IllegalStateException {
+        if (what < 0 || what > 2) {
+            throw new IndexOutOfBoundsException("what is 0, 1 or 2");
+        }
+        if (points.size < 2) {
+            throw new IllegalStateException("there are not two points");
+        }
+        if (what == 0) {
+            return closestGap;
+        }
+        return what == 1 ? closestLower : closestOther;
+    }
+
+    public int point(int point, int what) throws IndexOutOfBoundsException {
+        checkNumber(point);
+        if (what < 0 || what > 1) {
+            throw new IndexOutOfBoundsException("what is 0 or 1");
+        }
+        return what == 0 ? points.x(point) : points.y(point);
+    }
+
+    public int count(int what) {
+        switch (what) {
+            case 0:
+                return points.size;
+            case 1:
+                return net.solidCount();
+            case 2:
+                return outline.many();
+            default:
+                return NONE;
+        }
+    }
+
+    private static void checkPlace(int x, int y) {
+        if (x < -REACH || x > REACH || y < -REACH || y > REACH) {
+            throw new IllegalArgumentException("x and y are from -1000000000 to 1000000000");
+        }
+    }
+
+    private void checkNumber(int number) {
+        if (number < 0 || number >= points.size) {
+            throw new IndexOutOfBoundsException("no such point");
+        }
+    }
+
+    /** A new point has the highest number, so that only its nearest one (with the lowest number) can matter. */
+    private void noteClosest(int near, int number) {
+        if (near == NONE) {
+            return;
+        }
+        long gap = points.gap(near, points.x(number), points.y(number));
+        if (closestLower == NONE || gap < closestGap || gap == closestGap && near < closestLower) {
+            closestGap = gap;
+            closestLower = near;
+            closestOther = number;
+        }
+    }
+
+    /** All points before this one are on one line: if it is not, they have waited for it. */
+    private void tryToBeginNet(int number) {
+        long turn = number < 2 ? 0 : points.turn(0, 1, points.x(number), points.y(number));
+        if (turn == 0) {
+            return;
+        }
+        if (turn > 0) {
+            net.begin(0, 1, number);
+        } else {
+            net.begin(1, 0, number);
+        }
+        for (int i = 2; i < number; i++) {
+            net.insert(i, points.nearestOf(i, points.x(i), points.y(i)));
+        }
+    }
+
+    private void forgetAnswers() {
+        forgetFound();
+        roll.forget();
+        outline.forget();
+    }
+
+    private void forgetFound() {
+        Arrays.fill(found, NONE);
+    }
+
+    private int neighboursOnLine(int number) {
+        int many = points.greatestBelow(points.x(number), points.y(number)) == NONE ? 0 : 1;
+        return points.leastAbove(points.x(number), points.y(number)) == NONE ? many : many + 1;
+    }
+
+    /** The k-th is there. */
+    private int neighbourOnLine(int number, int k) {
+        int below = points.greatestBelow(points.x(number), points.y(number));
+        int above = points.leastAbove(points.x(number), points.y(number));
+        if (below == NONE || above == NONE) {
+            return Math.max(below, above);
+        }
+        return k == 0 ? Math.min(below, above) : Math.max(below, above);
+    }
+
+    private int locateOnLine(int x, int y) {
+        if (points.size < 2 || points.turn(0, 1, x, y) != 0) {
+            return OUTSIDE;
+        }
+        int below = points.greatestBelow(x, y);
+        int above = points.leastAbove(x, y);
+        return below == NONE || above == NONE ? OUTSIDE : foundBetween(below, above);
+    }
+
+    private int locateInNet(int near, int x, int y) {
+        int first = net.holder(near, x, y);
+        if (net.isOuter(first)) {
+            return OUTSIDE;
+        }
+        for (int step = 0; step < 3; step++) {
+            int edge = Net.ahead(first, step);
+            if (points.turn(net.startOf(edge), net.endOf(edge), x, y) == 0) {
+                return foundBetween(net.startOf(edge), net.endOf(edge));
+            }
+        }
+        int told = net.lowestFirst(first);
+        for (int step = 0; step < found.length; step++) {
+            found[step] = net.startOf(Net.ahead(told, step));
+        }
+        return IN_TRIANGLE;
+    }
+
+    private int foundBetween(int one, int other) {
+        found[0] = Math.min(one, other);
+        found[1] = Math.max(one, other);
+        return BETWEEN;
+    }
+
+    private static int read(int[] row, int index) {
+        return index >= 0 && index < row.length ? row[index] : 0;
+    }
+
+    private static void write(int[] row, int index, int value) {
+        if (index >= 0 && index < row.length) {
+            row[index] = value;
+        }
+    }
+
+    /** A sum of products in 128 bits: the test of a circle would not fit into a long. */
+    private static final class Wide {
+        private static final long LOW_HALF = 0xFFFFFFFFL;
+
+        private long high;
+        private long low;
+
+        Wide() {
+            high = 0;
+            low = 0;
+        }
+
+        void reset() {
+            high = 0;
+            low = 0;
+        }
+
+        void addProduct(long a, long b) {
+            long aHigh = a >> 32;
+            long aLow = a & LOW_HALF;
+            long bHigh = b >> 32;
+            long bLow = b & LOW_HALF;
+            long first = aHigh * bLow + (aLow * bLow >>> 32);
+            long second = aLow * bHigh + (first & LOW_HALF);
+            long productHigh = aHigh * bHigh + (first >> 32) + (second >> 32);
+            long productLow = a * b;
+            long sum = low + productLow;
+            long carry = (low & productLow | (low | productLow) & ~sum) >>> 63;
+            low = sum;
+            high = high + productHigh + carry;
+        }
+
+        int sign() {
+            if (high < 0) {
+                return -1;
+            }
+            return high == 0 && low == 0 ? 0 : 1;
+        }
+    }
+
+    /** Where the points are, and what follows from that alone. */
+    private static final class Points {
+        final int room;
+        int size;
+        private final int[] xs;
+        private final int[] ys;
+        private final Wide sum;
+
+        Points(int room) {
+            this.room = room;
+            size = 0;
+            xs = new int[room];
+            ys = new int[room];
+            sum = new Wide();
+        }
+
+        boolean isFull() {
+            return size >= room;
+        }
+
+        int append(int x, int y) {
+            int number = size;
+            write(xs, number, x);
+            write(ys, number, y);
+            size = number + 1;
+            return number;
+        }
+
+        int x(int number) {
+            return number >= 0 && number < xs.length ? xs[number] : 0;
+        }
+
+        int y(int number) {
+            return number >= 0 && number < ys.length ? ys[number] : 0;
+        }
+
+        boolean isAt(int number, int x, int y) {
+            return number >= 0 && number < size && x(number) == x && y(number) == y;
+        }
+
+        boolean isLess(int a, int b) {
+            return x(a) < x(b) || x(a) == x(b) && y(a) < y(b);
+        }
+
+        private boolean isBelow(int number, int x, int y) {
+            return x(number) < x || x(number) == x && y(number) < y;
+        }
+
+        private boolean isAbove(int number, int x, int y) {
+            return x(number) > x || x(number) == x && y(number) > y;
+        }
+
+        /** The square of a distance: at most 8e18, which a long holds. */
+        long gap(int number, int x, int y) {
+            long dx = (long) x(number) - x;
+            long dy = (long) y(number) - y;
+            return dx * dx + dy * dy;
+        }
+
+        /** Of the first points, so many of them, the nearest; of equally near ones the lowest. */
+        int nearestOf(int many, int x, int y) {
+            int best = NONE;
+            long bestGap = 0;
+            for (int i = 0; i < many && i < xs.length; i++) {
+                long dx = (long) xs[i] - x;
+                long dy = (long) ys[i] - y;
+                long gap = dx * dx + dy * dy;
+                if (best == NONE || gap < bestGap) {
+                    best = i;
+                    bestGap = gap;
+                }
+            }
+            return best;
+        }
+
+        int leastAbove(int x, int y) {
+            int best = NONE;
+            for (int i = 0; i < size; i++) {
+                if (isAbove(i, x, y) && (best == NONE || isLess(i, best))) {
+                    best = i;
+                }
+            }
+            return best;
+        }
+
+        int greatestBelow(int x, int y) {
+            int best = NONE;
+            for (int i = 0; i < size; i++) {
+                if (isBelow(i, x, y) && (best == NONE || isLess(best, i))) {
+                    best = i;
+                }
+            }
+            return best;
+        }
+
+        /** Above 0, when a place is left of the way from a to b; below, when right (at most 8e18 each way). */
+        long turn(int a, int b, int x, int y) {
+            long bx = (long) x(b) - x(a);
+            long by = (long) y(b) - y(a);
+            long cx = (long) x - x(a);
+            long cy = (long) y - y(a);
+            return bx * cy - by * cx;
+        }
+
+        private long dot(int from, int a, int b) {
+            long ax = (long) x(a) - x(from);
+            long ay = (long) y(a) - y(from);
+            long bx = (long) x(b) - x(from);
+            long by = (long) y(b) - y(from);
+            return ax * bx + ay * by;
+        }
+
+        /** Whether d takes the triangle a, b, c (left round) away: it is in its circle, or on it and parts it. */
+        boolean takesAway(int d, int a, int b, int c) {
+            sum.reset();
+            // The sine of the angles at c and d over a and b together, which are half a turn on a circle.
+            sum.addProduct(turn(c, a, x(b), y(b)), dot(d, a, b));
+            sum.addProduct(turn(d, b, x(a), y(a)), dot(c, a, b));
+            int sign = sum.sign();
+            if (sign != 0) {
+                return sign < 0;
+            }
+            // On one circle: the least of the four is in both triangles.
+            if (isLess(d, a) && isLess(d, b) && isLess(d, c)) {
+                return true;
+            }
+            if (isLess(a, b) && isLess(a, c)) {
+                return turn(b, c, x(d), y(d)) < 0;
+            }
+            return isLess(b, c) ? turn(c, a, x(d), y(d)) < 0 : turn(a, b, x(d), y(d)) < 0;
+        }
+    }
+
+    /**
+     * The triangles, three edges each (3t, 3t + 1, 3t + 2), left round. The outside is made of triangles too, of
+     * two neighbouring outer points and a ghost, so that a point outside comes in as any other does.
+     */
+    private static final class Net {
+        private final Points points;
+        private final int ghost;
+        private int[] starts;
+        private int[] twins;
+        private int[] leaving;
+        private int[] marks;
+        private int[] pit;
+        private int[] rim;
+        private int mark;
+        private int all;
+        private int outer;
+        private int pitSize;
+        private int rimSize;
+
+        Net(Points points) {
+            this.points = points;
+            ghost = points.room;
+            starts = new int[0];
+            twins = new int[0];
+            leaving = new int[0];
+            marks = new int[0];
+            pit = new int[0];
+            rim = new int[0];
+            mark = 0;
+            all = 0;
+            outer = 0;
+            pitSize = 0;
+            rimSize = 0;
+        }
+
+        static int ahead(int edge, int steps) {
+            int first = edge - edge % 3;
+            return first + (edge - first + steps) % 3;
+        }
+
+        boolean isEmpty() {
+            return all == 0;
+        }
+
+        int solidCount() {
+            return all - outer;
+        }
+
+        int edgeCount() {
+            return 3 * all;
+        }
+
+        int startOf(int edge) {
+            return edge >= 0 && edge < starts.length ? starts[edge] : 0;
+        }
+
+        int endOf(int edge) {
+            return startOf(ahead(edge, 1));
+        }
+
+        void removeAll() {
+            all = 0;
+            outer = 0;
+        }
+
+        /** Many nets never get a triangle, so the rows wait for the first one; they serve again after that. */
+        private void makeRows() {
+            int most = 2 * points.room + 2;
+            starts = new int[3 * most];
+            twins = new int[3 * most];
+            leaving = new int[points.room + 1];
+            marks = new int[most];
+            pit = new int[most];
+            rim = new int[most];
+        }
+
+        /** The first triangle a, b, c (left round) and the outside at its three edges. */
+        void begin(int a, int b, int c) {
+            if (starts.length == 0) {
+                makeRows();
+            }
+            all = 4;
+            outer = 3;
+            setTriangle(0, a, b, c);
+            setTriangle(1, b, a, ghost);
+            setTriangle(2, c, b, ghost);
+            setTriangle(3, a, c, ghost);
+            join(0, 3);
+            join(1, 6);
+            join(2, 9);
+            join(4, 11);
+            join(7, 5);
+            join(10, 8);
+        }
+
+        private void setTriangle(int triangle, int a, int b, int c) {
+            int edge = 3 * triangle;
+            write(starts, edge, a);
+            write(starts, edge + 1, b);
+            write(starts, edge + 2, c);
+            write(leaving, a, edge);
+            write(leaving, c, edge + 2);
+        }
+
+        private void join(int edge, int twin) {
+            write(twins, edge, twin);
+            write(twins, twin, edge);
+        }
+
+        /** A point more, which is not in the net yet; near is in it. */
+        void insert(int number, int near) {
+            dig(holder(near, points.x(number), points.y(number)) / 3, number);
+            fill(number);
+        }
+
+        /** The triangles that the point takes away hang together and are seen whole from it. */
+        private void dig(int triangle, int number) {
+            mark++;
+            pitSize = 0;
+            rimSize = 0;
+            takeAway(triangle);
+            for (int i = 0; i < pitSize && i < pit.length; i++) {
+                for (int step = 0; step < 3; step++) {
+                    int beyond = read(twins, 3 * pit[i] + step);
+                    if (read(marks, beyond / 3) == mark) {
+                        continue;
+                    }
+                    int second = ahead(beyond, 1);
+                    boolean taken = isOuter(beyond) ? isSeen(beyond, number)
+                        : points.takesAway(number, startOf(beyond), startOf(second), endOf(second));
+                    if (taken) {
+                        takeAway(beyond / 3);
+                    } else {
+                        write(rim, rimSize, beyond);
+                        rimSize++;
+                    }
+                }
+            }
+        }
+
+        private void takeAway(int triangle) {
+            write(marks, triangle, mark);
+            write(pit, pitSize, triangle);
+            pitSize++;
+            if (isOuter(3 * triangle)) {
+                outer--;
+            }
+        }
+
+        /** The pit becomes a fan of triangles round the point, in the same places and two more. */
+        private void fill(int number) {
+            for (int i = 0; i < rimSize; i++) {
+                int beyond = read(rim, i);
+                int triangle = i < pitSize ? read(pit, i) : all++;
+                setTriangle(triangle, endOf(beyond), startOf(beyond), number);
+                join(3 * triangle, beyond);
+                // Till all are set, pit is the list of the new triangles.
+                write(pit, i, triangle);
+                if (isOuter(3 * triangle)) {
+                    outer++;
+                }
+            }
+            for (int i = 0; i < rimSize; i++) {
+                int edge = 3 * read(pit, i) + 1;
+                join(edge, read(leaving, startOf(edge)) + 2);
+            }
+        }
+
+        /** Whether a point lies in a triangle of the ghost's: beyond its edge or on it. */
+        private boolean isSeen(int edge, int number) {
+            int base = baseOf(edge);
+            int from = startOf(base);
+            int to = endOf(base);
+            long turn = points.turn(from, to, points.x(number), points.y(number));
+            return turn > 0 || turn == 0 && points.isLess(from, number) == points.isLess(number, to);
+        }
+
+        /** Whether the triangle of an edge is one of the ghost's. */
+        boolean isOuter(int edge) {
+            int first = edge - edge % 3;
+            return startOf(first) == ghost || startOf(first + 1) == ghost || startOf(first + 2) == ghost;
+        }
+
+        /** Of a triangle of the ghost's the edge without it. */
+        private int baseOf(int edge) {
+            int base = edge;
+            for (int step = 0; step < 2 && (startOf(base) == ghost || endOf(base) == ghost); step++) {
+                base = ahead(base, 1);
+            }
+            return base;
+        }
+
+        /** An edge of the triangle that has the place inside or on its side; one of the ghost's when it is outside. */
+        int holder(int near, int x, int y) {
+            int edge = read(leaving, near);
+            if (isOuter(edge)) {
+                edge = read(twins, baseOf(edge));
+            }
+            // The circles come nearer and nearer to the place, so no triangle is met twice.
+            for (int walked = 0; walked < all && !isOuter(edge); walked++) {
+                int out = wayOut(edge, x, y);
+                if (out == NONE) {
+                    return edge;
+                }
+                edge = read(twins, out);
+            }
+            return edge;
+        }
+
+        /** An edge of a triangle that has the place on its other side; NONE, when the place is in the triangle. */
+        private int wayOut(int edge, int x, int y) {
+            for (int step = 0; step < 3; step++) {
+                int side = ahead(edge, step);
+                if (points.turn(startOf(side), endOf(side), x, y) < 0) {
+                    return side;
+                }
+            }
+            return NONE;
+        }
+
+        int lowestFirst(int edge) {
+            int lowest = edge;
+            for (int step = 1; step < 3; step++) {
+                int other = ahead(edge, step);
+                if (startOf(other) < startOf(lowest)) {
+                    lowest = other;
+                }
+            }
+            return lowest;
+        }
+
+        /** The next edge from the same point, left round it. */
+        private int leftOf(int edge) {
+            return read(twins, ahead(edge, 2));
+        }
+
+        int degree(int number) {
+            int first = read(leaving, number);
+            int edge = first;
+            int many = 0;
+            for (int turned = 0; turned <= ghost; turned++) {
+                if (endOf(edge) != ghost) {
+                    many++;
+                }
+                edge = leftOf(edge);
+                if (edge == first) {
+                    break;
+                }
+            }
+            return many;
+        }
+
+        /** The k-th neighbour; it is there. */
+        int leftRound(int number, int k) {
+            int edge = lowestFrom(number);
+            int left = k;
+            // The ghost may cost one turn more.
+            for (int turned = 0; turned <= ghost && left > 0; turned++) {
+                edge = leftOf(edge);
+                if (endOf(edge) != ghost) {
+                    left--;
+                }
+            }
+            return endOf(edge);
+        }
+
+        private int lowestFrom(int number) {
+            int first = read(leaving, number);
+            int lowest = first;
+            int edge = first;
+            for (int turned = 0; turned <= ghost; turned++) {
+                // The ghost's number is above all others.
+                if (endOf(edge) < endOf(lowest)) {
+                    lowest = edge;
+                }
+                edge = leftOf(edge);
+                if (edge == first) {
+                    break;
+                }
+            }
+            return lowest;
+        }
+
+        /** Of an outer point the edge to the ghost. */
+        int wayToGhost(int number) {
+            int edge = read(leaving, number);
+            for (int turned = 0; turned <= ghost && endOf(edge) != ghost; turned++) {
+                edge = leftOf(edge);
+            }
+            return edge;
+        }
+
+        /** From an outer point's edge to the ghost to that of the next outer point, left round. */
+        int nextWayToGhost(int edge) {
+            return read(twins, ahead(edge, 1));
+        }
+    }
+
+    /** The triangles in the order in which they are told, each by its edge from the lowest number. */
+    private static final class Roll {
+        private final Points points;
+        private final Net net;
+        private int[] edges;
+        private int[] spare;
+        private int[] ends;
+        private boolean fresh;
+
+        Roll(Points points, Net net) {
+            this.points = points;
+            this.net = net;
+            edges = new int[0];
+            spare = new int[0];
+            ends = new int[0];
+            fresh = false;
+        }
+
+        void forget() {
+            fresh = false;
+        }
+
+        int edge(int k) {
+            if (!fresh) {
+                sortAll();
+            }
+            return read(edges, k);
+        }
+
+        private void sortAll() {
+            if (edges.length == 0) {
+                edges = new int[2 * points.room];
+                spare = new int[2 * points.room];
+                ends = new int[points.room + 1];
+            }
+            int many = gather();
+            // No two have the first and the second number alike, so the third never decides.
+            sortInto(edges, spare, many, 1);
+            sortInto(spare, edges, many, 0);
+            fresh = true;
+        }
+
+        private int gather() {
+            int many = 0;
+            for (int edge = 0; edge < net.edgeCount(); edge += 3) {
+                if (!net.isOuter(edge)) {
+                    write(edges, many, net.lowestFirst(edge));
+                    many++;
+                }
+            }
+            return many;
+        }
+
+        /** By one of the numbers, leaving alike ones in their order. */
+        private void sortInto(int[] from, int[] to, int many, int what) {
+            Arrays.fill(ends, 0);
+            for (int i = 0; i < many; i++) {
+                int key = net.startOf(Net.ahead(read(from, i), what));
+                write(ends, key + 1, read(ends, key + 1) + 1);
+            }
+            for (int key = 1; key < points.size; key++) {
+                write(ends, key, read(ends, key) + read(ends, key - 1));
+            }
+            for (int i = 0; i < many; i++) {
+                int edge = read(from, i);
+                int key = net.startOf(Net.ahead(edge, what));
+                int place = read(ends, key);
+                write(to, place, edge);
+                write(ends, key, place + 1);
+            }
+        }
+    }
+
+    /** The corners of all points. */
+    private static final class Outline {
+        private final Points points;
+        private final Net net;
+        private final int[] corners;
+        private int size;
+        private boolean fresh;
+
+        Outline(Points points, Net net) {
+            this.points = points;
+            this.net = net;
+            corners = new int[points.room];
+            size = 0;
+            fresh = false;
+        }
+
+        void forget() {
+            fresh = false;
+        }
+
+        int many() {
+            draw();
+            return size;
+        }
+
+        int at(int k) {
+            draw();
+            return read(corners, k);
+        }
+
+        private void draw() {
+            if (fresh) {
+                return;
+            }
+            size = 0;
+            if (net.isEmpty()) {
+                drawLine();
+            } else {
+                drawRound();
+            }
+            fresh = true;
+        }
+
+        private void drawLine() {
+            int least = points.leastAbove(-BEYOND, 0);
+            int greatest = points.greatestBelow(BEYOND, 0);
+            if (least != NONE) {
+                put(least);
+            }
+            if (greatest != least) {
+                put(greatest);
+            }
+        }
+
+        private void drawRound() {
+            int first = net.wayToGhost(points.leastAbove(-BEYOND, 0));
+            int edge = first;
+            int before = NONE;
+            for (int step = 0; step < points.size; step++) {
+                int next = net.nextWayToGhost(edge);
+                int here = net.startOf(edge);
+                // Outer points may be on the line between two corners; the least one never is.
+                if (before == NONE || isCorner(before, here, net.startOf(next))) {
+                    put(here);
+                }
+                before = here;
+                edge = next;
+                if (edge == first) {
+                    break;
+                }
+            }
+        }
+
+        /** Of an outer point, between those before and after it. */
+        private boolean isCorner(int before, int here, int after) {
+            return points.turn(before, here, points.x(after), points.y(after)) != 0;
+        }
+
+        private void put(int number) {
+            write(corners, size, number);
+            size++;
+        }
+    }
+}
