@@ -81,13 +81,12 @@ public final class PlaneNet {
 
     public int neighbours(int point) throws IndexOutOfBoundsException {
         checkNumber(point);
-        return net.isEmpty() ? neighboursOnLine(point) : net.degree(point);
+        return neighbourCount(point);
     }
 
     public int neighbour(int point, int k) throws IndexOutOfBoundsException {
         checkNumber(point);
-        int many = net.isEmpty() ? neighboursOnLine(point) : net.degree(point);
-        if (k < 0 || k >= many) {
+        if (k < 0 || k >= neighbourCount(point)) {
             throw new IndexOutOfBoundsException("no such neighbour");
         }
         return net.isEmpty() ? neighbourOnLine(point, k) : net.leftRound(point, k);
@@ -211,7 +210,10 @@ public final class PlaneNet {
         Arrays.fill(found, NONE);
     }
 
-    private int neighboursOnLine(int number) {
+    private int neighbourCount(int number) {
+        if (!net.isEmpty()) {
+            return net.degree(number);
+        }
         int many = points.greatestBelow(points.x(number), points.y(number)) == NONE ? 0 : 1;
         return points.leastAbove(points.x(number), points.y(number)) == NONE ? many : many + 1;
     }
@@ -291,12 +293,12 @@ public final class PlaneNet {
             long aLow = a & LOW_HALF;
             long bHigh = b >> 32;
             long bLow = b & LOW_HALF;
-            long first = aHigh * bLow + (aLow * bLow >>> 32);
+            long first = aHigh * bLow + ((aLow * bLow) >>> 32);
             long second = aLow * bHigh + (first & LOW_HALF);
             long productHigh = aHigh * bHigh + (first >> 32) + (second >> 32);
             long productLow = a * b;
             long sum = low + productLow;
-            long carry = (low & productLow | (low | productLow) & ~sum) >>> 63;
+            long carry = ((low & productLow) | ((low | productLow) & ~sum)) >>> 63;
             low = sum;
             high = high + productHigh + carry;
         }
@@ -424,7 +426,7 @@ public final class PlaneNet {
         /** Whether d takes the triangle a, b, c (left round) away: it is in its circle, or on it and parts it. */
         boolean takesAway(int d, int a, int b, int c) {
             sum.reset();
-            // The sine of the angles at c and d over a and b together, which are half a turn on a circle.
+            // The sign of the sine of the angles at c and d together, which are half a turn when d is on the circle.
             sum.addProduct(turn(c, a, x(b), y(b)), dot(d, a, b));
             sum.addProduct(turn(d, b, x(a), y(a)), dot(c, a, b));
             int sign = sum.sign();
@@ -598,7 +600,7 @@ public final class PlaneNet {
                 int triangle = i < pitSize ? read(pit, i) : all++;
                 setTriangle(triangle, endOf(beyond), startOf(beyond), number);
                 join(3 * triangle, beyond);
-                // Till all are set, pit is the list of the new triangles.
+                // From here on pit lists the new triangles, for the second round.
                 write(pit, i, triangle);
                 if (isOuter(3 * triangle)) {
                     outer++;
@@ -627,11 +629,11 @@ public final class PlaneNet {
 
         /** Of a triangle of the ghost's the edge without it. */
         private int baseOf(int edge) {
-            int base = edge;
-            for (int step = 0; step < 2 && (startOf(base) == ghost || endOf(base) == ghost); step++) {
-                base = ahead(base, 1);
+            int fromGhost = edge;
+            for (int step = 0; step < 2 && startOf(fromGhost) != ghost; step++) {
+                fromGhost = ahead(fromGhost, 1);
             }
-            return base;
+            return ahead(fromGhost, 1);
         }
 
         /** An edge of the triangle that has the place inside or on its side; one of the ghost's when it is outside. */
