@@ -45,6 +45,7 @@ public final class PlaneNet {
         if (points.isFull()) {
             throw new IllegalStateException("there are as many points as may be");
         }
+        makeRoom(points.size + 1);
         int number = points.append(x, y);
         noteClosest(near, number);
         if (net.isEmpty()) {
@@ -171,6 +172,14 @@ public final class PlaneNet {
         }
     }
 
+    /** With every point a little, also while the net waits: else the call that begins it would make it all. */
+    private void makeRoom(int many) {
+        points.makeRoom(many);
+        net.makeRoom(many);
+        roll.makeRoom(many);
+        outline.makeRoom(many);
+    }
+
     /** A new point has the highest number, so that only its nearest one (with the lowest number) can matter. */
     private void noteClosest(int near, int number) {
         if (near == NONE) {
@@ -261,13 +270,43 @@ public final class PlaneNet {
         return BETWEEN;
     }
 
-    private static int read(int[] row, int index) {
-        return index >= 0 && index < row.length ? row[index] : 0;
-    }
+    /** A row of numbers that grows by pages: a call makes few of them, and a run no more than its points need. */
+    private static final class Row {
+        private static final int PAGE = 32;
 
-    private static void write(int[] row, int index, int value) {
-        if (index >= 0 && index < row.length) {
-            row[index] = value;
+        private final int[][] pages;
+        private int made;
+
+        Row(int most) {
+            pages = new int[most > 0 ? (most - 1) / PAGE + 1 : 0][];
+            made = 0;
+        }
+
+        /** From now on there is room for so many. */
+        void reach(int many) {
+            for (; made < pages.length && made * PAGE < many; made++) {
+                pages[made] = new int[PAGE];
+            }
+        }
+
+        int get(int index) {
+            if (index < 0 || index / PAGE >= pages.length) {
+                return 0;
+            }
+            int[] page = pages[index / PAGE];
+            int place = index % PAGE;
+            return page != null && place < page.length ? page[place] : 0;
+        }
+
+        void put(int index, int value) {
+            if (index < 0 || index / PAGE >= pages.length) {
+                return;
+            }
+            int[] page = pages[index / PAGE];
+            int place = index % PAGE;
+            if (page != null && place < page.length) {
+                page[place] = value;
+            }
         }
     }
 
@@ -315,15 +354,15 @@ public final class PlaneNet {
     private static final class Points {
         final int room;
         int size;
-        private final int[] xs;
-        private final int[] ys;
+        private final Row xs;
+        private final Row ys;
         private final Wide sum;
 
         Points(int room) {
             this.room = room;
             size = 0;
-            xs = new int[room];
-            ys = new int[room];
+            xs = new Row(room);
+            ys = new Row(room);
             sum = new Wide();
         }
 
@@ -331,42 +370,47 @@ public final class PlaneNet {
             return size >= room;
         }
 
+        void makeRoom(int many) {
+            xs.reach(many);
+            ys.reach(many);
+        }
+
         int append(int x, int y) {
             int number = size;
-            write(xs, number, x);
-            write(ys, number, y);
+            xs.put(number, x);
+            ys.put(number, y);
             size = number + 1;
             return number;
         }
 
         int x(int number) {
-            return number >= 0 && number < xs.length ? xs[number] : 0;
+            return xs.get(number);
         }
 
         int y(int number) {
-            return number >= 0 && number < ys.length ? ys[number] : 0;
+            return ys.get(number);
         }
 
         boolean isAt(int number, int x, int y) {
-            return number >= 0 && number < size && x(number) == x && y(number) == y;
+            return number >= 0 && number < size && xs.get(number) == x && ys.get(number) == y;
         }
 
         boolean isLess(int a, int b) {
-            return x(a) < x(b) || x(a) == x(b) && y(a) < y(b);
+            return xs.get(a) < xs.get(b) || xs.get(a) == xs.get(b) && ys.get(a) < ys.get(b);
         }
 
         private boolean isBelow(int number, int x, int y) {
-            return x(number) < x || x(number) == x && y(number) < y;
+            return xs.get(number) < x || xs.get(number) == x && ys.get(number) < y;
         }
 
         private boolean isAbove(int number, int x, int y) {
-            return x(number) > x || x(number) == x && y(number) > y;
+            return xs.get(number) > x || xs.get(number) == x && ys.get(number) > y;
         }
 
         /** The square of a distance: at most 8e18, which a long holds. */
         long gap(int number, int x, int y) {
-            long dx = (long) x(number) - x;
-            long dy = (long) y(number) - y;
+            long dx = (long) xs.get(number) - x;
+            long dy = (long) ys.get(number) - y;
             return dx * dx + dy * dy;
         }
 
@@ -374,10 +418,8 @@ public final class PlaneNet {
         int nearestOf(int many, int x, int y) {
             int best = NONE;
             long bestGap = 0;
-            for (int i = 0; i < many && i < xs.length; i++) {
-                long dx = (long) xs[i] - x;
-                long dy = (long) ys[i] - y;
-                long gap = dx * dx + dy * dy;
+            for (int i = 0; i < many; i++) {
+                long gap = gap(i, x, y);
                 if (best == NONE || gap < bestGap) {
                     best = i;
                     bestGap = gap;
@@ -408,18 +450,18 @@ public final class PlaneNet {
 
         /** Above 0, when a place is left of the way from a to b; below, when right (at most 8e18 each way). */
         long turn(int a, int b, int x, int y) {
-            long bx = (long) x(b) - x(a);
-            long by = (long) y(b) - y(a);
-            long cx = (long) x - x(a);
-            long cy = (long) y - y(a);
+            long bx = (long) xs.get(b) - xs.get(a);
+            long by = (long) ys.get(b) - ys.get(a);
+            long cx = (long) x - xs.get(a);
+            long cy = (long) y - ys.get(a);
             return bx * cy - by * cx;
         }
 
         private long dot(int from, int a, int b) {
-            long ax = (long) x(a) - x(from);
-            long ay = (long) y(a) - y(from);
-            long bx = (long) x(b) - x(from);
-            long by = (long) y(b) - y(from);
+            long ax = (long) xs.get(a) - xs.get(from);
+            long ay = (long) ys.get(a) - ys.get(from);
+            long bx = (long) xs.get(b) - xs.get(from);
+            long by = (long) ys.get(b) - ys.get(from);
             return ax * bx + ay * by;
         }
 
@@ -427,8 +469,8 @@ public final class PlaneNet {
         boolean takesAway(int d, int a, int b, int c) {
             sum.reset();
             // The sign of the sine of the angles at c and d together, which are half a turn when d is on the circle.
-            sum.addProduct(turn(c, a, x(b), y(b)), dot(d, a, b));
-            sum.addProduct(turn(d, b, x(a), y(a)), dot(c, a, b));
+            sum.addProduct(turn(c, a, xs.get(b), ys.get(b)), dot(d, a, b));
+            sum.addProduct(turn(d, b, xs.get(a), ys.get(a)), dot(c, a, b));
             int sign = sum.sign();
             if (sign != 0) {
                 return sign < 0;
@@ -438,9 +480,9 @@ public final class PlaneNet {
                 return true;
             }
             if (isLess(a, b) && isLess(a, c)) {
-                return turn(b, c, x(d), y(d)) < 0;
+                return turn(b, c, xs.get(d), ys.get(d)) < 0;
             }
-            return isLess(b, c) ? turn(c, a, x(d), y(d)) < 0 : turn(a, b, x(d), y(d)) < 0;
+            return isLess(b, c) ? turn(c, a, xs.get(d), ys.get(d)) < 0 : turn(a, b, xs.get(d), ys.get(d)) < 0;
         }
     }
 
@@ -451,12 +493,12 @@ public final class PlaneNet {
     private static final class Net {
         private final Points points;
         private final int ghost;
-        private int[] starts;
-        private int[] twins;
-        private int[] leaving;
-        private int[] marks;
-        private int[] pit;
-        private int[] rim;
+        private final Row starts;
+        private final Row twins;
+        private final Row leaving;
+        private final Row marks;
+        private final Row pit;
+        private final Row rim;
         private int mark;
         private int all;
         private int outer;
@@ -466,12 +508,12 @@ public final class PlaneNet {
         Net(Points points) {
             this.points = points;
             ghost = points.room;
-            starts = new int[0];
-            twins = new int[0];
-            leaving = new int[0];
-            marks = new int[0];
-            pit = new int[0];
-            rim = new int[0];
+            starts = new Row(6 * points.room);
+            twins = new Row(6 * points.room);
+            leaving = new Row(points.room + 1);
+            marks = new Row(2 * points.room);
+            pit = new Row(2 * points.room);
+            rim = new Row(2 * points.room);
             mark = 0;
             all = 0;
             outer = 0;
@@ -497,11 +539,11 @@ public final class PlaneNet {
         }
 
         int startOf(int edge) {
-            return edge >= 0 && edge < starts.length ? starts[edge] : 0;
+            return starts.get(edge);
         }
 
         int endOf(int edge) {
-            return startOf(ahead(edge, 1));
+            return starts.get(ahead(edge, 1));
         }
 
         void removeAll() {
@@ -509,22 +551,18 @@ public final class PlaneNet {
             outer = 0;
         }
 
-        /** Many nets never get a triangle, so the rows wait for the first one; they serve again after that. */
-        private void makeRows() {
-            int most = 2 * points.room + 2;
-            starts = new int[3 * most];
-            twins = new int[3 * most];
-            leaving = new int[points.room + 1];
-            marks = new int[most];
-            pit = new int[most];
-            rim = new int[most];
+        /** There are never as many triangles, the ghost's with them, as two for each point. */
+        void makeRoom(int many) {
+            starts.reach(6 * many);
+            twins.reach(6 * many);
+            leaving.reach(many + 1);
+            marks.reach(2 * many);
+            pit.reach(2 * many);
+            rim.reach(2 * many);
         }
 
         /** The first triangle a, b, c (left round) and the outside at its three edges. */
         void begin(int a, int b, int c) {
-            if (starts.length == 0) {
-                makeRows();
-            }
             all = 4;
             outer = 3;
             setTriangle(0, a, b, c);
@@ -541,16 +579,21 @@ public final class PlaneNet {
 
         private void setTriangle(int triangle, int a, int b, int c) {
             int edge = 3 * triangle;
-            write(starts, edge, a);
-            write(starts, edge + 1, b);
-            write(starts, edge + 2, c);
-            write(leaving, a, edge);
-            write(leaving, c, edge + 2);
+            starts.put(edge, a);
+            starts.put(edge + 1, b);
+            starts.put(edge + 2, c);
+            leaving.put(placeOf(a), edge);
+            leaving.put(placeOf(c), edge + 2);
+        }
+
+        /** Among the edges that leave: the ghost's comes first, as the row grows with the points. */
+        private int placeOf(int number) {
+            return number == ghost ? 0 : number + 1;
         }
 
         private void join(int edge, int twin) {
-            write(twins, edge, twin);
-            write(twins, twin, edge);
+            twins.put(edge, twin);
+            twins.put(twin, edge);
         }
 
         /** A point more, which is not in the net yet; near is in it. */
@@ -565,10 +608,10 @@ public final class PlaneNet {
             pitSize = 0;
             rimSize = 0;
             takeAway(triangle);
-            for (int i = 0; i < pitSize && i < pit.length; i++) {
+            for (int i = 0; i < pitSize; i++) {
                 for (int step = 0; step < 3; step++) {
-                    int beyond = read(twins, 3 * pit[i] + step);
-                    if (read(marks, beyond / 3) == mark) {
+                    int beyond = twins.get(3 * pit.get(i) + step);
+                    if (marks.get(beyond / 3) == mark) {
                         continue;
                     }
                     int second = ahead(beyond, 1);
@@ -577,7 +620,7 @@ public final class PlaneNet {
                     if (taken) {
                         takeAway(beyond / 3);
                     } else {
-                        write(rim, rimSize, beyond);
+                        rim.put(rimSize, beyond);
                         rimSize++;
                     }
                 }
@@ -585,8 +628,8 @@ public final class PlaneNet {
         }
 
         private void takeAway(int triangle) {
-            write(marks, triangle, mark);
-            write(pit, pitSize, triangle);
+            marks.put(triangle, mark);
+            pit.put(pitSize, triangle);
             pitSize++;
             if (isOuter(3 * triangle)) {
                 outer--;
@@ -596,19 +639,19 @@ public final class PlaneNet {
         /** The pit becomes a fan of triangles round the point, in the same places and two more. */
         private void fill(int number) {
             for (int i = 0; i < rimSize; i++) {
-                int beyond = read(rim, i);
-                int triangle = i < pitSize ? read(pit, i) : all++;
+                int beyond = rim.get(i);
+                int triangle = i < pitSize ? pit.get(i) : all++;
                 setTriangle(triangle, endOf(beyond), startOf(beyond), number);
                 join(3 * triangle, beyond);
                 // From here on pit lists the new triangles, for the second round.
-                write(pit, i, triangle);
+                pit.put(i, triangle);
                 if (isOuter(3 * triangle)) {
                     outer++;
                 }
             }
             for (int i = 0; i < rimSize; i++) {
-                int edge = 3 * read(pit, i) + 1;
-                join(edge, read(leaving, startOf(edge)) + 2);
+                int edge = 3 * pit.get(i) + 1;
+                join(edge, leaving.get(placeOf(startOf(edge))) + 2);
             }
         }
 
@@ -624,13 +667,13 @@ public final class PlaneNet {
         /** Whether the triangle of an edge is one of the ghost's. */
         boolean isOuter(int edge) {
             int first = edge - edge % 3;
-            return startOf(first) == ghost || startOf(first + 1) == ghost || startOf(first + 2) == ghost;
+            return starts.get(first) == ghost || starts.get(first + 1) == ghost || starts.get(first + 2) == ghost;
         }
 
         /** Of a triangle of the ghost's the edge without it. */
         private int baseOf(int edge) {
             int fromGhost = edge;
-            for (int step = 0; step < 2 && startOf(fromGhost) != ghost; step++) {
+            for (int step = 0; step < 2 && starts.get(fromGhost) != ghost; step++) {
                 fromGhost = ahead(fromGhost, 1);
             }
             return ahead(fromGhost, 1);
@@ -638,9 +681,9 @@ public final class PlaneNet {
 
         /** An edge of the triangle that has the place inside or on its side; one of the ghost's when it is outside. */
         int holder(int near, int x, int y) {
-            int edge = read(leaving, near);
+            int edge = leaving.get(placeOf(near));
             if (isOuter(edge)) {
-                edge = read(twins, baseOf(edge));
+                edge = twins.get(baseOf(edge));
             }
             // The circles come nearer and nearer to the place, so no triangle is met twice.
             for (int walked = 0; walked < all && !isOuter(edge); walked++) {
@@ -648,7 +691,7 @@ public final class PlaneNet {
                 if (out == NONE) {
                     return edge;
                 }
-                edge = read(twins, out);
+                edge = twins.get(out);
             }
             return edge;
         }
@@ -677,11 +720,11 @@ public final class PlaneNet {
 
         /** The next edge from the same point, left round it. */
         private int leftOf(int edge) {
-            return read(twins, ahead(edge, 2));
+            return twins.get(ahead(edge, 2));
         }
 
         int degree(int number) {
-            int first = read(leaving, number);
+            int first = leaving.get(placeOf(number));
             int edge = first;
             int many = 0;
             for (int turned = 0; turned <= ghost; turned++) {
@@ -711,7 +754,7 @@ public final class PlaneNet {
         }
 
         private int lowestFrom(int number) {
-            int first = read(leaving, number);
+            int first = leaving.get(placeOf(number));
             int lowest = first;
             int edge = first;
             for (int turned = 0; turned <= ghost; turned++) {
@@ -729,7 +772,7 @@ public final class PlaneNet {
 
         /** Of an outer point the edge to the ghost. */
         int wayToGhost(int number) {
-            int edge = read(leaving, number);
+            int edge = leaving.get(placeOf(number));
             for (int turned = 0; turned <= ghost && endOf(edge) != ghost; turned++) {
                 edge = leftOf(edge);
             }
@@ -738,7 +781,7 @@ public final class PlaneNet {
 
         /** From an outer point's edge to the ghost to that of the next outer point, left round. */
         int nextWayToGhost(int edge) {
-            return read(twins, ahead(edge, 1));
+            return twins.get(ahead(edge, 1));
         }
     }
 
@@ -746,18 +789,24 @@ public final class PlaneNet {
     private static final class Roll {
         private final Points points;
         private final Net net;
-        private int[] edges;
-        private int[] spare;
-        private int[] ends;
+        private final Row edges;
+        private final Row spare;
+        private final Row ends;
         private boolean fresh;
 
         Roll(Points points, Net net) {
             this.points = points;
             this.net = net;
-            edges = new int[0];
-            spare = new int[0];
-            ends = new int[0];
+            edges = new Row(2 * points.room);
+            spare = new Row(2 * points.room);
+            ends = new Row(points.room + 1);
             fresh = false;
+        }
+
+        void makeRoom(int many) {
+            edges.reach(2 * many);
+            spare.reach(2 * many);
+            ends.reach(many + 1);
         }
 
         void forget() {
@@ -768,15 +817,10 @@ public final class PlaneNet {
             if (!fresh) {
                 sortAll();
             }
-            return read(edges, k);
+            return edges.get(k);
         }
 
         private void sortAll() {
-            if (edges.length == 0) {
-                edges = new int[2 * points.room];
-                spare = new int[2 * points.room];
-                ends = new int[points.room + 1];
-            }
             int many = gather();
             // No two have the first and the second number alike, so the third never decides.
             sortInto(edges, spare, many, 1);
@@ -788,7 +832,7 @@ public final class PlaneNet {
             int many = 0;
             for (int edge = 0; edge < net.edgeCount(); edge += 3) {
                 if (!net.isOuter(edge)) {
-                    write(edges, many, net.lowestFirst(edge));
+                    edges.put(many, net.lowestFirst(edge));
                     many++;
                 }
             }
@@ -796,21 +840,23 @@ public final class PlaneNet {
         }
 
         /** By one of the numbers, leaving alike ones in their order. */
-        private void sortInto(int[] from, int[] to, int many, int what) {
-            Arrays.fill(ends, 0);
+        private void sortInto(Row from, Row to, int many, int what) {
+            for (int key = 0; key <= points.size; key++) {
+                ends.put(key, 0);
+            }
             for (int i = 0; i < many; i++) {
-                int key = net.startOf(Net.ahead(read(from, i), what));
-                write(ends, key + 1, read(ends, key + 1) + 1);
+                int key = net.startOf(Net.ahead(from.get(i), what));
+                ends.put(key + 1, ends.get(key + 1) + 1);
             }
             for (int key = 1; key < points.size; key++) {
-                write(ends, key, read(ends, key) + read(ends, key - 1));
+                ends.put(key, ends.get(key) + ends.get(key - 1));
             }
             for (int i = 0; i < many; i++) {
-                int edge = read(from, i);
+                int edge = from.get(i);
                 int key = net.startOf(Net.ahead(edge, what));
-                int place = read(ends, key);
-                write(to, place, edge);
-                write(ends, key, place + 1);
+                int place = ends.get(key);
+                to.put(place, edge);
+                ends.put(key, place + 1);
             }
         }
     }
@@ -819,16 +865,20 @@ public final class PlaneNet {
     private static final class Outline {
         private final Points points;
         private final Net net;
-        private final int[] corners;
+        private final Row corners;
         private int size;
         private boolean fresh;
 
         Outline(Points points, Net net) {
             this.points = points;
             this.net = net;
-            corners = new int[points.room];
+            corners = new Row(points.room);
             size = 0;
             fresh = false;
+        }
+
+        void makeRoom(int many) {
+            corners.reach(many);
         }
 
         void forget() {
@@ -842,7 +892,7 @@ public final class PlaneNet {
 
         int at(int k) {
             draw();
-            return read(corners, k);
+            return corners.get(k);
         }
 
         private void draw() {
@@ -894,7 +944,7 @@ public final class PlaneNet {
         }
 
         private void put(int number) {
-            write(corners, size, number);
+            corners.put(size, number);
             size++;
         }
     }
