@@ -121,17 +121,25 @@ public final class PromiseTest {
 
     private static void newObject() {
         due("NONE", -1, NONE);
-        int[][] mosts = {{1, 1}, {2, 2}, {5, 5}, {1023, 1023}, {1024, 1024}, {1025, 1024}, {Integer.MAX_VALUE, 1024}, {0, 1}, {-1, 1}, {Integer.MIN_VALUE, 1}};
+        int[][] mosts = {{1, 1}, {2, 2}, {5, 5}, {500, 500}, {0, 1}, {-1, 1}, {Integer.MIN_VALUE, 1}};
         for (int[] most : mosts) {
             PlaneNet net = new PlaneNet(most[0]);
-            due("count(0) of a new one", 0, net.count(0));
-            due("count(1) of a new one", 0, net.count(1));
-            due("count(2) of a new one", 0, net.count(2));
-            for (int i = 0; i < most[1]; i++) {
-                due("add to " + most[0], i, net.add(i % 32, i / 32));
-            }
+            takesPoints(net, most[0], most[1]);
             noState("add too many to " + most[0], () -> net.add(-1, -1));
             due("count(0) of a full one", most[1], net.count(0));
+        }
+        // More than 512 calls are not made, so that these are never full.
+        for (int most : new int[] {512, 1023, 1024, 1025, Integer.MAX_VALUE}) {
+            takesPoints(new PlaneNet(most), most, 509);
+        }
+    }
+
+    private static void takesPoints(PlaneNet net, int most, int many) {
+        due("count(0) of a new one", 0, net.count(0));
+        due("count(1) of a new one", 0, net.count(1));
+        due("count(2) of a new one", 0, net.count(2));
+        for (int i = 0; i < many; i++) {
+            due("add to " + most, i, net.add(i % 32, i / 32));
         }
     }
 
@@ -459,14 +467,18 @@ public final class PromiseTest {
     private static void allCallsAtOnce() {
         int[] values = {Integer.MIN_VALUE, -REACH - 1, -REACH, -2, -1, 0, 1, 2, 3, 4, REACH, REACH + 1, Integer.MAX_VALUE};
         for (int most = 0; most < 6; most++) {
-            PlaneNet net = new PlaneNet(most);
-            for (int round = 0; round < 3; round++) {
-                for (int a : values) {
+            for (int a : values) {
+                PlaneNet net = new PlaneNet(most);
+                // On one line or bent; in the first round the object is full.
+                for (int x = 0; x < most; x++) {
+                    due("add to " + most, x, net.add(x, most % 2 == 0 ? x : x * x));
+                }
+                for (int round = 0; round < 3; round++) {
                     for (int b : values) {
                         callAll(net, a, b);
                     }
+                    net.clear();
                 }
-                net.clear();
             }
         }
     }

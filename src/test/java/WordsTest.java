@@ -114,13 +114,13 @@ public final class WordsTest {
     private static void runs(String name, int many, int most, Source source) {
         for (int run = 0; run < many; run++) {
             Random random = new Random(name.hashCode() * 1000L + run);
-            PlaneNet net = new PlaneNet(most);
+            Told net = new Told(most);
             Words words = new Words(most);
             for (int i = 0; i < most + 4; i++) {
                 int[] at = source.next(random, i);
-                due(name, run, "add", words.add(at[0], at[1]), answer(net, at));
+                due(name, run, "add", words.add(at[0], at[1]), net.tell(at));
                 if (random.nextInt(60) == 0) {
-                    due(name, run, "clear", words.xs.size(), net.clear());
+                    due(name, run, "clear", words.xs.size(), net.removeAll());
                     words = new Words(most);
                 }
                 if (random.nextInt(3) == 0 || i == most + 3) {
@@ -130,11 +130,52 @@ public final class WordsTest {
         }
     }
 
-    private static int answer(PlaneNet net, int[] at) {
-        try {
-            return net.add(at[0], at[1]);
-        } catch (IllegalStateException e) {
-            return -2;
+    /** The object that is asked; before it has had more than its 512 calls, a new one is told the same points. */
+    private static final class Told {
+        private static final int CALLS = 512;
+
+        private final int most;
+        private final List<int[]> points = new ArrayList<>();
+        private PlaneNet net;
+        private int calls;
+
+        Told(int most) {
+            this.most = most;
+            net = new PlaneNet(most);
+            calls = 0;
+        }
+
+        /** -2 for IllegalStateException. */
+        int tell(int[] at) {
+            int answer;
+            try {
+                answer = forCalls(1).add(at[0], at[1]);
+            } catch (IllegalStateException e) {
+                answer = -2;
+            }
+            if (answer >= 0) {
+                points.add(at);
+            }
+            return answer;
+        }
+
+        int removeAll() {
+            int answer = forCalls(1).clear();
+            points.clear();
+            return answer;
+        }
+
+        /** For so many calls, which belong together. */
+        PlaneNet forCalls(int many) {
+            if (calls + many > CALLS) {
+                net = new PlaneNet(most);
+                for (int[] at : points) {
+                    net.add(at[0], at[1]);
+                }
+                calls = points.size();
+            }
+            calls += many;
+            return net;
         }
     }
 
@@ -148,33 +189,33 @@ public final class WordsTest {
         }
     }
 
-    private static void compare(String name, int run, Words words, PlaneNet net, Random random, Source source) {
+    private static void compare(String name, int run, Words words, Told net, Random random, Source source) {
         words.work();
         int size = words.xs.size();
-        due(name, run, "count(0)", size, net.count(0));
-        due(name, run, "count(1)", words.triangles.size(), net.count(1));
-        due(name, run, "count(2)", words.corners.size(), net.count(2));
-        if (words.triangles.size() != net.count(1) || words.corners.size() != net.count(2)) {
+        due(name, run, "count(0)", size, net.forCalls(1).count(0));
+        due(name, run, "count(1)", words.triangles.size(), net.forCalls(1).count(1));
+        due(name, run, "count(2)", words.corners.size(), net.forCalls(1).count(2));
+        if (words.triangles.size() != net.forCalls(1).count(1) || words.corners.size() != net.forCalls(1).count(2)) {
             return;
         }
         for (int k = 0; k < words.triangles.size(); k++) {
             for (int what = 0; what < 3; what++) {
-                due(name, run, "triangle(" + k + ", " + what + ")", words.triangles.get(k)[what], net.triangle(k, what));
+                due(name, run, "triangle(" + k + ", " + what + ")", words.triangles.get(k)[what], net.forCalls(1).triangle(k, what));
             }
         }
         for (int k = 0; k < words.corners.size(); k++) {
-            due(name, run, "corner(" + k + ")", words.corners.get(k), net.corner(k));
+            due(name, run, "corner(" + k + ")", words.corners.get(k), net.forCalls(1).corner(k));
         }
         for (int i = 0; i < size; i++) {
             compareNeighbours(name, run, words, net, i);
-            due(name, run, "point", words.xs.get(i), net.point(i, 0));
-            due(name, run, "point", words.ys.get(i), net.point(i, 1));
-            due(name, run, "find", i, net.find(words.xs.get(i), words.ys.get(i)));
+            due(name, run, "point", words.xs.get(i), net.forCalls(1).point(i, 0));
+            due(name, run, "point", words.ys.get(i), net.forCalls(1).point(i, 1));
+            due(name, run, "find", i, net.forCalls(1).find(words.xs.get(i), words.ys.get(i)));
         }
         if (size >= 2) {
             long[] closest = words.closest();
             for (int what = 0; what < 3; what++) {
-                due(name, run, "closest(" + what + ")", closest[what], net.closest(what));
+                due(name, run, "closest(" + what + ")", closest[what], net.forCalls(1).closest(what));
             }
         }
         for (int i = 0; i < 12; i++) {
@@ -197,15 +238,17 @@ public final class WordsTest {
         return new int[] {within(words.xs.get(a) + random.nextInt(3) - 1), within(words.ys.get(a) + random.nextInt(3) - 1)};
     }
 
-    private static void compareNeighbours(String name, int run, Words words, PlaneNet net, int i) {
+    private static void compareNeighbours(String name, int run, Words words, Told net, int i) {
         List<Integer> want = words.neighbours(i);
-        due(name, run, "neighbours(" + i + ")", want.size(), net.neighbours(i));
-        for (int k = 0; k < want.size() && k < net.neighbours(i); k++) {
-            due(name, run, "neighbour(" + i + ", " + k + ")", want.get(k), net.neighbour(i, k));
+        int many = net.forCalls(1).neighbours(i);
+        due(name, run, "neighbours(" + i + ")", want.size(), many);
+        for (int k = 0; k < want.size() && k < many; k++) {
+            due(name, run, "neighbour(" + i + ", " + k + ")", want.get(k), net.forCalls(1).neighbour(i, k));
         }
     }
 
-    private static void comparePlace(String name, int run, Words words, PlaneNet net, int x, int y) {
+    private static void comparePlace(String name, int run, Words words, Told told, int x, int y) {
+        PlaneNet net = told.forCalls(6);
         int[] want = words.locate(x, y);
         String place = "(" + x + ", " + y + ")";
         due(name, run, "locate" + place, want[0], net.locate(x, y));
@@ -222,18 +265,18 @@ public final class WordsTest {
 
     private static void full(int run, int calls, Source source) {
         Random random = new Random(run);
-        PlaneNet net = new PlaneNet(1024);
+        Told net = new Told(1024);
         Words words = new Words(1024);
         for (int i = 0; i < calls; i++) {
             int[] at = source.next(random, i);
-            due("full", run, "add", words.add(at[0], at[1]), net.add(at[0], at[1]));
+            due("full", run, "add", words.add(at[0], at[1]), net.tell(at));
         }
         int size = words.xs.size();
-        int many = net.count(1);
+        int many = net.forCalls(1).count(1);
         long area = 0;
         int[] before = {NONE, NONE, NONE};
         for (int k = 0; k < many; k++) {
-            int[] told = {net.triangle(k, 0), net.triangle(k, 1), net.triangle(k, 2)};
+            int[] told = {net.forCalls(1).triangle(k, 0), net.forCalls(1).triangle(k, 1), net.forCalls(1).triangle(k, 2)};
             due("full", run, "order of triangle " + k, 1, Arrays.compare(before, told) < 0 ? 1 : 0);
             due("full", run, "lowest first", 1, told[0] < told[1] && told[0] < told[2] ? 1 : 0);
             before = told;
@@ -243,21 +286,22 @@ public final class WordsTest {
             }
         }
         long whole = 0;
-        for (int k = 1; k + 1 < net.count(2); k++) {
-            long turn = words.turn(net.corner(0), net.corner(k), net.corner(k + 1));
+        int corners = net.forCalls(1).count(2);
+        for (int k = 1; k + 1 < corners; k++) {
+            long turn = words.turn(net.forCalls(1).corner(0), net.forCalls(1).corner(k), net.forCalls(1).corner(k + 1));
             due("full", run, "corner " + k + " turns left", 1, turn > 0 ? 1 : 0);
             whole += turn / 4;
         }
         due("full", run, "area", 1, Math.abs(whole - area) <= many + size ? 1 : 0);
         long ends = 0;
         for (int i = 0; i < size; i++) {
-            ends += net.neighbours(i);
+            ends += net.forCalls(1).neighbours(i);
         }
         // Points - edges + triangles = 1.
         due("full", run, "edges", size + many - 1, ends / 2);
         long[] closest = words.closest();
         for (int what = 0; what < 3; what++) {
-            due("full", run, "closest(" + what + ")", closest[what], net.closest(what));
+            due("full", run, "closest(" + what + ")", closest[what], net.forCalls(1).closest(what));
         }
     }
 
