@@ -34,11 +34,15 @@ public final class WordsTest {
         runs("at the edges", 120, 12, (random, i) -> new int[] {atEdge(random), atEdge(random)});
         runs("two clusters", 60, 14, (random, i) -> cluster(random));
         runs("parabola", 10, 18, (random, i) -> new int[] {i * 1000, i * i * 1000});
-        full(1, 470, (random, i) -> new int[] {anywhere(random), anywhere(random)});
-        full(2, 470, (random, i) -> grid(random, 22, 1));
-        full(3, 470, (random, i) -> new int[] {i * 1000, i * i * 1000});
-        full(4, 470, (random, i) -> i == 400 ? new int[] {7, 100} : new int[] {(i * 277 % 470) * 3, 0});
-        full(5, 300, (random, i) -> circleOf(160225)[i % 60]);
+        large("anywhere", 1024, 470, (random, i) -> new int[] {anywhere(random), anywhere(random)});
+        large("grid", 1024, 470, (random, i) -> grid(random, 22, 1));
+        large("parabola", 1024, 470, (random, i) -> new int[] {i * 1000, i * i * 1000});
+        large("line and one more", 1024, 470, (random, i) -> i == 400 ? new int[] {7, 100} : new int[] {(i * 277 % 470) * 3, 0});
+        large("circle", 1024, 300, (random, i) -> circleOf(160225)[i % 60]);
+        for (int most : new int[] {1, 2, 3, 4, 5, 8, 15, 16, 17, 31, 32, 33, 34, 63, 64, 65, 66, 95, 96, 97, 127, 128, 129}) {
+            asManyAsMayBe(most);
+        }
+        large("anywhere, as many as may be", 448, 448, (random, i) -> new int[] {anywhere(random), anywhere(random)});
         System.out.println(asked + " answers asked, " + wrong + " wrong");
         if (wrong != 0) {
             System.exit(1);
@@ -261,47 +265,98 @@ public final class WordsTest {
         }
     }
 
-    // ---- as many points as 512 calls allow
+    // ---- nets too large for the long way: what must be true of the answers is asked
 
-    private static void full(int run, int calls, Source source) {
-        Random random = new Random(run);
-        Told net = new Told(1024);
-        Words words = new Words(1024);
+    private static void asManyAsMayBe(int most) {
+        int last = most - 1;
+        large("anywhere, as many as may be", most, most, (random, i) -> new int[] {anywhere(random), anywhere(random)});
+        large("grid, as many as may be", most, most, (random, i) -> new int[] {i % 7, i / 7});
+        large("line, as many as may be", most, most, (random, i) -> new int[] {3 * i, -2 * i});
+        large("line and a last one, as many as may be", most, most, (random, i) -> new int[] {i == last ? 1 : i, i == last ? 1 : 0});
+        large("fan, as many as may be", most, most, (random, i) -> i == 0 ? new int[] {REACH, 0} : new int[] {-i * i, i});
+        large("fan and a last one, as many as may be", most, most, (random, i) -> i == last ? new int[] {REACH, 0} : new int[] {-i * i, i});
+    }
+
+    private static void large(String name, int most, int calls, Source source) {
+        Random random = new Random(most);
+        Told net = new Told(most);
+        Words words = new Words(most);
         for (int i = 0; i < calls; i++) {
             int[] at = source.next(random, i);
-            due("full", run, "add", words.add(at[0], at[1]), net.tell(at));
+            due(name, most, "add", words.add(at[0], at[1]), net.tell(at));
         }
-        int size = words.xs.size();
+        if (words.xs.size() == most) {
+            due(name, most, "add of one too many", -2, net.tell(new int[] {-REACH, 12345}));
+        }
+        due(name, most, "count(0)", words.xs.size(), net.forCalls(1).count(0));
+        takeTriangles(name, most, words, net);
+        due(name, most, "area", 1, Math.abs(areaByCorners(name, most, words, net) - areaByTriangles(words)) <= 2 * words.xs.size() ? 1 : 0);
+        countEdges(name, most, words, net);
+        if (words.xs.size() >= 2) {
+            long[] closest = words.closest();
+            for (int what = 0; what < 3; what++) {
+                due(name, most, "closest(" + what + ")", closest[what], net.forCalls(1).closest(what));
+            }
+        }
+        if (words.xs.size() < 150) {
+            askAll(name, most, words, net, random);
+        }
+    }
+
+    private static void takeTriangles(String name, int most, Words words, Told net) {
         int many = net.forCalls(1).count(1);
-        long area = 0;
         int[] before = {NONE, NONE, NONE};
         for (int k = 0; k < many; k++) {
             int[] told = {net.forCalls(1).triangle(k, 0), net.forCalls(1).triangle(k, 1), net.forCalls(1).triangle(k, 2)};
-            due("full", run, "order of triangle " + k, 1, Arrays.compare(before, told) < 0 ? 1 : 0);
-            due("full", run, "lowest first", 1, told[0] < told[1] && told[0] < told[2] ? 1 : 0);
-            before = told;
-            area += words.turn(told[0], told[1], told[2]) / 4;
-            for (int d = 0; d < size; d++) {
-                due("full", run, "triangle " + k + " stands before " + d, 1, words.stands(told, d) ? 1 : 0);
+            due(name, most, "order of triangle " + k, 1, Arrays.compare(before, told) < 0 ? 1 : 0);
+            due(name, most, "lowest first", 1, told[0] < told[1] && told[0] < told[2] ? 1 : 0);
+            due(name, most, "triangle " + k + " left round", 1, words.turn(told[0], told[1], told[2]) > 0 ? 1 : 0);
+            for (int d = 0; d < words.xs.size(); d++) {
+                due(name, most, "triangle " + k + " stands before " + d, 1, words.stands(told, d) ? 1 : 0);
             }
+            before = told;
+            words.triangles.add(told);
         }
-        long whole = 0;
-        int corners = net.forCalls(1).count(2);
-        for (int k = 1; k + 1 < corners; k++) {
+        words.line = many == 0;
+    }
+
+    private static long areaByTriangles(Words words) {
+        long area = 0;
+        for (int[] told : words.triangles) {
+            area += words.turn(told[0], told[1], told[2]) / 4;
+        }
+        return area;
+    }
+
+    private static long areaByCorners(String name, int most, Words words, Told net) {
+        long area = 0;
+        int many = net.forCalls(1).count(2);
+        due(name, most, "corners, at least", 1, many >= Math.min(words.xs.size(), words.line ? 2 : 3) ? 1 : 0);
+        for (int k = 1; k + 1 < many; k++) {
             long turn = words.turn(net.forCalls(1).corner(0), net.forCalls(1).corner(k), net.forCalls(1).corner(k + 1));
-            due("full", run, "corner " + k + " turns left", 1, turn > 0 ? 1 : 0);
-            whole += turn / 4;
+            due(name, most, "corner " + k + " turns left", 1, turn > 0 ? 1 : 0);
+            area += turn / 4;
         }
-        due("full", run, "area", 1, Math.abs(whole - area) <= many + size ? 1 : 0);
+        return area;
+    }
+
+    private static void countEdges(String name, int most, Words words, Told net) {
         long ends = 0;
-        for (int i = 0; i < size; i++) {
+        for (int i = 0; i < words.xs.size(); i++) {
             ends += net.forCalls(1).neighbours(i);
         }
         // Points - edges + triangles = 1.
-        due("full", run, "edges", size + many - 1, ends / 2);
-        long[] closest = words.closest();
-        for (int what = 0; what < 3; what++) {
-            due("full", run, "closest(" + what + ")", closest[what], net.forCalls(1).closest(what));
+        due(name, most, "edges", words.xs.size() + words.triangles.size() - 1, ends / 2);
+    }
+
+    private static void askAll(String name, int most, Words words, Told net, Random random) {
+        for (int i = 0; i < words.xs.size(); i++) {
+            compareNeighbours(name, most, words, net, i);
+            comparePlace(name, most, words, net, words.xs.get(i), words.ys.get(i));
+        }
+        for (int i = 4; i < 12; i++) {
+            int[] place = placeFor(random, words, null, i);
+            comparePlace(name, most, words, net, place[0], place[1]);
         }
     }
 
