@@ -608,7 +608,8 @@ public final class PlaneNet {
             pitSize = 0;
             rimSize = 0;
             takeAway(triangle);
-            for (int i = 0; i < pitSize; i++) {
+            // The pit grows on the way, but has no triangle twice.
+            for (int i = 0; i < all && i < pitSize; i++) {
                 for (int step = 0; step < 3; step++) {
                     int beyond = twins.get(3 * pit.get(i) + step);
                     if (marks.get(beyond / 3) == mark) {
